@@ -16,7 +16,7 @@ public final class PaperWalls {
     private final Street[] places = new Street[PLACES];
     private final boolean[] isKept = new boolean[PLACES];
     private final Plan plan = new Plan();
-    private final Order order = new Order();
+    private final Change change = new Change();
     private final Shares shares = new Shares();
     private final int[] tally = new int[SIZE + 1];
     private int told;
@@ -347,20 +347,9 @@ public final class PaperWalls {
             return STATE;
         }
         trial.become(now);
-        int best = NONE;
-        order.begin(now.people);
-        for (int way = 0; way < Order.WAYS_MOST && best < now.talks; way++) {
-            trial.changeRooms(now, order.of);
-            int safe = Integer.bitCount(trial.safeTalks());
-            if (safe > best) {
-                best = safe;
-                rows[r].fill(order.of, now.people);
-            }
-            if (!order.advance()) {
-                break;
-            }
-        }
-        return best;
+        change.search(now, trial);
+        rows[r].fill(change.best, now.people);
+        return change.most;
     }
 
     public int swap() {
@@ -951,13 +940,6 @@ public final class PaperWalls {
             return i < text.size ? i : NONE;
         }
 
-        /** Each comes to the room that one of that street has, by an order of its people. */
-        void changeRooms(Street that, int[] whose) {
-            for (int x = 0; x < people; x++) {
-                rooms[x] = that.rooms[whose[x]];
-            }
-        }
-
         void measure() {
             for (int i = 0; i < walls; i++) {
                 depth[i + 1] = depth[i] + layers[i];
@@ -1107,6 +1089,37 @@ public final class PaperWalls {
                 }
             }
             return set;
+        }
+
+        /** Those of a set of talks for which nothing is wrong between x and those ahead of x. */
+        int stillSafe(int set, int x) {
+            int still = set;
+            for (int k = 0; k < talks; k++) {
+                if ((set >> k & 1) != 0 && isSpoilt(k, x)) {
+                    still &= ~(1 << k);
+                }
+            }
+            return still;
+        }
+
+        private boolean isSpoilt(int k, int x) {
+            if (speaker[k] != x) {
+                return speaker[k] < x && isHeardWrongly(k, x);
+            }
+            for (int y = 0; y < x; y++) {
+                if (isHeardWrongly(k, y)) {
+                    return true;
+                }
+            }
+            return false;
+        }
+
+        /** By y, who has to hear and does not, or must not and does. */
+        private boolean isHeardWrongly(int k, int y) {
+            if (y == hearer[k]) {
+                return !isHeardBy(y, speaker[k]);
+            }
+            return (barred[k] >> y & 1) != 0 && isHeardBy(y, speaker[k]);
         }
 
         boolean goTogether(int set) {
@@ -1276,43 +1289,37 @@ public final class PaperWalls {
         }
     }
 
-    /** All orders of people, one behind the other, the first one first. */
-    static final class Order {
-        static final int WAYS_MOST = 5040;
+    /**
+     * The first of the ways to change rooms by which most talks are safe. Rooms are given one by one,
+     * and a way is left as soon as too few talks can still be safe by it: all ways would be 5040.
+     */
+    static final class Change {
+        final int[] whose = new int[Street.PEOPLE_MOST];
+        final int[] best = new int[Street.PEOPLE_MOST];
+        int most;
 
-        final int[] of = new int[Street.PEOPLE_MOST];
-        int size;
-
-        void begin(int n) {
-            size = n;
-            for (int i = 0; i < n; i++) {
-                of[i] = i;
-            }
+        void search(Street street, Street trial) {
+            most = NONE;
+            place(this, street, trial, 0, street.everyone(), street.everyTalk());
         }
 
-        boolean advance() {
-            int i = size - 2;
-            while (i >= 0 && of[i] > of[i + 1]) {
-                i--;
+        /** Gives a room to x, who is as deep as this goes, and to all behind; free: whose rooms are left. */
+        private static void place(Change it, Street street, Street trial, int x, int free, int talks) {
+            if (Integer.bitCount(talks) <= it.most) {
+                return;
             }
-            if (i < 0) {
-                return false;
+            if (x >= street.people) {
+                it.most = Integer.bitCount(talks);
+                System.arraycopy(it.whose, 0, it.best, 0, Street.PEOPLE_MOST);
+                return;
             }
-            int j = size - 1;
-            while (j > i && of[j] < of[i]) {
-                j--;
+            for (int y = 0; y < street.people; y++) {
+                if ((free >> y & 1) != 0) {
+                    it.whose[x] = y;
+                    trial.rooms[x] = street.rooms[y];
+                    place(it, street, trial, x + 1, free & ~(1 << y), trial.stillSafe(talks, x));
+                }
             }
-            exchange(i, j);
-            for (int a = i + 1, b = size - 1; a < b; a++, b--) {
-                exchange(a, b);
-            }
-            return true;
-        }
-
-        private void exchange(int i, int j) {
-            int was = of[i];
-            of[i] = of[j];
-            of[j] = was;
         }
     }
 

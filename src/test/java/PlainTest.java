@@ -123,7 +123,7 @@ public final class PlainTest {
         CHECK.dueTold(name + " swap", walls, walls.swap(),
             swap == null ? NONE : 10 * swap[0] + swap[1], swap == null ? told : swap[2]);
         CHECK.due(name + " digest", walls.digest(), street);
-        if (plain.people() <= 5) {
+        if (plain.people() <= 6) {
             List<Integer> order = plain.bestRooms();
             CHECK.due(name + " rooms", walls.rooms(5), PlainWalls.size(plain.ordered(order).safes()));
             CHECK.due(name + " rooms, row", isRow(walls, 5, order) ? 1 : 0, 1);

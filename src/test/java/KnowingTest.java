@@ -250,6 +250,16 @@ public final class KnowingTest {
         CHECK.due("as ahead of it", x.know(5), 8);
         CHECK.due("kept still", x.on(0), 2);
         CHECK.due("as kept", x.know(5), 28);
+        x.undo(0);
+        x.comes(2, 5);
+        x.tell(2, 5);
+        x.tell(2, 5);
+        x.on(0);
+        CHECK.due("the second undone", x.undo(1), 1);
+        CHECK.due("as ahead of the second", x.know(5), 8);
+        CHECK.due("the first undone", x.undo(0), 1);
+        CHECK.due("as ahead of the first", x.know(5), 0);
+        x.on(0);
         x.keep(1);
         x.undo(0);
         CHECK.due("another place", x.on(1), 2);

@@ -56,6 +56,14 @@ public final class PeopleTest {
         CHECK.due("no noise below 0", x.mark(4, 4), 0);
         x.move(4, 0);
         CHECK.due("a song in room 0", x.mark(4, 4), 10);
+        PaperWalls first = Streets.of("p2 w0 d1 i1 l1 o1");
+        CHECK.due("the first one, by 0", first.mark(2, 5), 1);
+        CHECK.due("loud ones for a deaf one", first.mark(1, 3), 2);
+        first.move(1, 0);
+        first.move(3, 0);
+        CHECK.due("8 less 0", first.mark(1, 3), 1);
+        PaperWalls loud = Streets.of("p2 s0 d1");
+        CHECK.due("the first one, loud", loud.mark(1, 3), 1);
     }
 
     private static void markRefused() {

@@ -68,6 +68,7 @@ public final class RowsTest {
         CHECK.due("row(6, 1)", x.row(6, 1), BAD);
         CHECK.due("row(6, -1)", x.row(6, -1), BAD);
         CHECK.dueFinding("row(0, -1)", x, x.row(0, -1), SIZE);
+        x.lay(0, 0, 8);
         x.lay(0, 1, 7);
         CHECK.due("row anew", x.row(0, 2), 2);
         CHECK.due("noughts anew", Streets.isRow(x, 0, 0, 0) ? 1 : 0, 1);

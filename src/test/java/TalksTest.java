@@ -57,6 +57,7 @@ public final class TalksTest {
 
     private static void about() {
         PaperWalls x = Streets.fiveWithTalks();
+        CHECK.dueTold("about(0, 1)", x, x.about(0, 1), 1, 1);
         CHECK.dueTold("about(1, 0)", x, x.about(1, 0), 1, 2);
         CHECK.dueTold("about(1, 1)", x, x.about(1, 1), 1, 4);
         CHECK.dueTold("about(1, 2)", x, x.about(1, 2), 1, 1);

@@ -170,6 +170,12 @@ public final class TextsTest {
         CHECK.due("wall as written", x.wall(0, 5), 5);
         CHECK.due("room as written", x.move(0, 0), 0);
         CHECK.due("text stays", x.fault(0), NONE);
+        x.comes(0, 0);
+        x.tell(0, 0);
+        CHECK.due("tried on a street with hours", x.swap(), NONE);
+        x.street(0);
+        CHECK.due("no hours, still", x.count(3), 0);
+        CHECK.due("nobody knows, still", x.know(0), 0);
     }
 
     private static void streetRefused() {

@@ -1017,7 +1017,7 @@ public final class PaperWalls {
         private int whoHearOf(int set, int from, int singing, int speaking) {
             int able = set & ~singing & ~(1 << from);
             int who = 0;
-            for (int x = 0; x < people; x++) {
+            for (int x = 0; x < people && able >> x != 0; x++) {
                 if ((able >> x & 1) != 0) {
                     int song = loudestIn(rooms[x], singing, Kinds.SINGS);
                     int noise = Math.max(song, loudestIn(rooms[x], speaking, Kinds.SPEAKS));
@@ -1073,12 +1073,13 @@ public final class PaperWalls {
         }
 
         boolean isSafe(int k, int singing) {
-            return (singing & bothOf(k)) == 0 && isHeardRightly(k, singing, 0);
+            return (singing & bothOf(k)) == 0 && isHeardRightly(k, everyone(), singing, 0);
         }
 
-        private boolean isHeardRightly(int k, int singing, int speaking) {
-            int due = 1 << hearer[k];
-            return whoHearOf(due | barred[k], speaker[k], singing, speaking) == due;
+        /** By just the one who has to hear, as far as these ears go. */
+        private boolean isHeardRightly(int k, int ears, int singing, int speaking) {
+            int due = ears & 1 << hearer[k];
+            return whoHearOf(due | ears & barred[k], speaker[k], singing, speaking) == due;
         }
 
         int safeTalks() {
@@ -1095,31 +1096,13 @@ public final class PaperWalls {
         int stillSafe(int set, int x) {
             int still = set;
             for (int k = 0; k < talks; k++) {
-                if ((set >> k & 1) != 0 && isSpoilt(k, x)) {
+                int laterEars = speaker[k] < x ? 1 << x : 0;
+                int ears = speaker[k] == x ? (1 << x) - 1 : laterEars;
+                if ((set >> k & 1) != 0 && !isHeardRightly(k, ears, 0, 0)) {
                     still &= ~(1 << k);
                 }
             }
             return still;
-        }
-
-        private boolean isSpoilt(int k, int x) {
-            if (speaker[k] != x) {
-                return speaker[k] < x && isHeardWrongly(k, x);
-            }
-            for (int y = 0; y < x; y++) {
-                if (isHeardWrongly(k, y)) {
-                    return true;
-                }
-            }
-            return false;
-        }
-
-        /** By y, who has to hear and does not, or must not and does. */
-        private boolean isHeardWrongly(int k, int y) {
-            if (y == hearer[k]) {
-                return !isHeardBy(y, speaker[k]);
-            }
-            return (barred[k] >> y & 1) != 0 && isHeardBy(y, speaker[k]);
         }
 
         boolean goTogether(int set) {
@@ -1135,7 +1118,8 @@ public final class PaperWalls {
                 }
             }
             for (int k = 0; k < talks; k++) {
-                if ((set >> k & 1) != 0 && !isHeardRightly(k, 0, speakers & ~(1 << speaker[k]))) {
+                int others = speakers & ~(1 << speaker[k]);
+                if ((set >> k & 1) != 0 && !isHeardRightly(k, everyone(), 0, others)) {
                     return false;
                 }
             }

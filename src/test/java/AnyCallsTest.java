@@ -1,14 +1,18 @@
 import java.lang.reflect.InvocationTargetException;
 import java.lang.reflect.Method;
+import java.lang.reflect.Modifier;
 import java.util.ArrayList;
 import java.util.Comparator;
 import java.util.List;
 import java.util.Random;
 
-/** Any calls with any numbers: nothing is thrown, what is refused changes nothing, the same calls answer the same. */
+/**
+ * Any calls with any numbers, as many as an object answers: nothing is thrown, findings are counted; and another
+ * object, which gets just the calls that were not refused, answers them alike and looks alike at last.
+ */
 public final class AnyCallsTest {
     private static final Check CHECK = new Check("AnyCallsTest");
-    private static final int RUNS = 400, CALLS = 512;
+    private static final int RUNS = 1000, CALLS = 512, LOOKS = 20;
 
     private static final String[] WORDS = {
         "p1 o0 l1 w0 d1 s0 i1", "p", "", "p123456", "p55 o0 w0 s1 l2 i2", "p000 s0 s1 s2 s3 l0 l1 l2",
@@ -22,7 +26,7 @@ public final class AnyCallsTest {
     public static void main(String[] args) throws IllegalAccessException, InvocationTargetException {
         List<Method> calls = new ArrayList<>();
         for (Method method : PaperWalls.class.getDeclaredMethods()) {
-            if (java.lang.reflect.Modifier.isPublic(method.getModifiers())) {
+            if (Modifier.isPublic(method.getModifiers())) {
                 calls.add(method);
             }
         }
@@ -35,41 +39,51 @@ public final class AnyCallsTest {
 
     private static void run(List<Method> calls, Random random)
             throws IllegalAccessException, InvocationTargetException {
-        PaperWalls one = new PaperWalls();
-        PaperWalls other = new PaperWalls();
-        for (int n = 0; n < CALLS; n++) {
-            if (random.nextInt(60) == 0 || n == 0 && random.nextInt(8) != 0) {
+        PaperWalls all = new PaperWalls();
+        PaperWalls accepted = new PaperWalls();
+        int found = 0;
+        int made = 0;
+        while (made < CALLS - LOOKS - 40) {
+            if (random.nextInt(60) == 0 || made == 0 && random.nextInt(8) != 0) {
                 String words = WORDS[random.nextInt(WORDS.length)];
                 int t = random.nextInt(4);
-                Streets.write(one, t, words);
-                Streets.write(other, t, words);
-                CHECK.due("street", one.street(t), other.street(t));
+                Streets.write(all, t, words);
+                Streets.write(accepted, t, words);
+                CHECK.due("street", all.street(t), accepted.street(t));
+                made += words.length() + 2;
             }
             Method call = calls.get(random.nextInt(calls.size()));
             Object[] numbers = new Object[call.getParameterCount()];
             for (int i = 0; i < numbers.length; i++) {
                 numbers[i] = number(random);
             }
-            long digest = one.digest();
-            int asked = one.asked();
-            int found = findings(one);
-            long answer = ((Number) call.invoke(one, numbers)).longValue();
-            long again = ((Number) call.invoke(other, numbers)).longValue();
-            String name = call.getName() + " of " + List.of(numbers);
-            CHECK.due(name + " in another object", again, answer);
-            boolean isWide = call.getReturnType() == long.class || name.startsWith("asked");
-            CHECK.due(name + " counts findings", findings(one) - found,
-                !isWide && answer == PaperWalls.FINDING ? 1 : 0);
-            if (!isWide && answer < 0) {
-                CHECK.due(name + " is an answer", isAnswer(answer) ? 1 : 0, 1);
-                CHECK.due(name + " was refused, digest", one.digest(), digest);
-                CHECK.due(name + " was refused, asked()", one.asked(), asked);
+            long answer = ((Number) call.invoke(all, numbers)).longValue();
+            made++;
+            found += isRefusal(call, answer) && answer == PaperWalls.FINDING ? 1 : 0;
+            if (!isRefusal(call, answer) && !call.getName().startsWith("finding")) {
+                long again = ((Number) call.invoke(accepted, numbers)).longValue();
+                CHECK.due(call.getName() + " of " + List.of(numbers) + ", without what was refused", again, answer);
             }
         }
-        CHECK.due("digest of another object", other.digest(), one.digest());
+        CHECK.due("asked() without what was refused", accepted.asked(), all.asked());
+        CHECK.due("findings without what was refused", findings(accepted), 0);
+        CHECK.due("findings of all that was answered", findings(all), found);
+        CHECK.due("digest() without what was refused", accepted.digest(), all.digest());
+        CHECK.due("safes() without what was refused", accepted.safes(), all.safes());
+        CHECK.due("undo(0) without what was refused", accepted.undo(0), all.undo(0));
+        CHECK.due("digest() then", accepted.digest(), all.digest());
     }
 
-    private static boolean isAnswer(long answer) {
+    private static boolean isRefusal(Method call, long answer) {
+        boolean canRefuse = call.getParameterCount() > 0 || call.getName().equals("turns")
+            || call.getName().equals("swap");
+        if (canRefuse && answer < 0) {
+            CHECK.due(call.getName() + " answers " + answer + ", which is told", isTold(answer) ? 1 : 0, 1);
+        }
+        return canRefuse && answer < 0;
+    }
+
+    private static boolean isTold(long answer) {
         return answer == PaperWalls.BAD || answer == PaperWalls.FULL || answer == PaperWalls.FINDING
             || answer == PaperWalls.STATE || answer == PaperWalls.NONE;
     }

@@ -279,11 +279,11 @@ public final class KnowingTest {
         CHECK.dueTold("then one, two, one", x, x.nights(0, 5, 1), 1, 4);
         CHECK.dueTold("never nought", x, x.nights(1, 5, 1), 0, NONE);
         CHECK.dueTold("one cries, who must not hear", x, x.nights(2, 5, 1), 4, 1);
-        for (int seed = 1; seed < 40; seed += 3) {
+        for (int seed = 1; seed < 16; seed += 3) {
             dueNights(x, 1, 60, seed);
         }
-        dueNights(x, 2, 60, 2147483646);
-        dueNights(x, 0, 59, 1234567890);
+        dueNights(Streets.fiveWithTalks(), 2, 60, 2147483646);
+        dueNights(Streets.fiveWithTalks(), 0, 59, 1234567890);
     }
 
     private static void dueNights(PaperWalls x, int k, int n, int seed) {

@@ -144,6 +144,13 @@ public final class KeptEdgesTest {
         CHECK.due("who heard it then", x.knowsThat(0, 2, 0), 1);
         x.undo(0);
         CHECK.due("as ahead of the first", x.know(0), 4);
+        x.comes(0, 1);
+        x.tell(0, 1);
+        x.tell(0, 1);
+        x.on(0);
+        x.undo(1);
+        CHECK.due("as ahead of the second, by what was kept", x.know(0), 31);
+        CHECK.due("as ahead of the second, without what was not", x.know(1), 0);
     }
 
     private static void onRefused() {

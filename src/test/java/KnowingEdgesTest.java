@@ -149,6 +149,8 @@ public final class KnowingEdgesTest {
         CHECK.due("without a street, none", new PaperWalls().undo(0), 0);
         CHECK.due("without a street, one", new PaperWalls().undo(1), BAD);
         CHECK.due("a 41st", Scenes.full().undo(41), BAD);
+        CHECK.due("a 42nd", Scenes.full().undo(42), BAD);
+        CHECK.due("the greatest", Scenes.full().undo(Integer.MAX_VALUE), BAD);
     }
 
     private static void undoAll() {
@@ -229,6 +231,14 @@ public final class KnowingEdgesTest {
         CHECK.due("a whisperer, far off", x.knowsThat(2, 1, 0), 0);
         x.wall(0, 3);
         CHECK.due("a loud one, by 1", x.knowsThat(2, 3, 0), 1);
+        PaperWalls one = Streets.of("p5 o0 l0 l1");
+        one.comes(0, 0);
+        one.comes(2, 0);
+        CHECK.due("told to one", one.tell(0, 0), 7);
+        CHECK.due("who heard it of who did not", one.knowsThat(1, 2, 0), 0);
+        CHECK.due("who did not of who heard it", one.knowsThat(2, 1, 0), 0);
+        CHECK.due("who did not of who told it", one.knowsThat(2, 0, 0), 0);
+        CHECK.due("who told it of who did not", one.knowsThat(0, 2, 0), 0);
     }
 
     private static void knowsThatByTelling() {

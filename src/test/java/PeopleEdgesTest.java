@@ -22,6 +22,7 @@ public final class PeopleEdgesTest {
         markOfDeafOnes();
         markOfSingers();
         markOfListeners();
+        markAfterMoves();
         markRefused();
         wall();
         move();
@@ -254,6 +255,22 @@ public final class PeopleEdgesTest {
         dueMark("p5 i0 o1 d1 o0 l1", 5, 2);
         dueMark("p6 i0 o1", 5, 0);
         dueMark("p2 i0 w1 i1 w1 w1 w1 w1", 5, 6);
+    }
+
+    private static void markAfterMoves() {
+        CHECK.by(13, "What one who IS of a KIND tells");
+        PaperWalls x = Streets.of("p9 s0 w0 d0 i0 o0");
+        x.move(0, 1);
+        x.wall(0, 8);
+        CHECK.due("a loud one, to a listener alone", x.mark(0, 1), 1);
+        CHECK.due("a singer, by 10 less 8", x.mark(0, 4), 2);
+        CHECK.due("a whisperer, with three", x.mark(1, 2), 3);
+        CHECK.due("a deaf one, of one", x.mark(2, 3), 1);
+        CHECK.due("a listener, of one more", x.mark(3, 5), 1);
+        x.move(4, 1);
+        CHECK.due("a whisperer, with two", x.mark(1, 2), 2);
+        CHECK.due("a deaf one, of none", x.mark(2, 3), 0);
+        CHECK.due("a loud one, to two", x.mark(0, 1), 2);
     }
 
     private static void markRefused() {

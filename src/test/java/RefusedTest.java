@@ -265,6 +265,8 @@ public final class RefusedTest {
         in(Scenes::rich, 21);
         refused("BAD", "off(-1)", x -> x.off(-1));
         refused("BAD", "off(4)", x -> x.off(4));
+        refused("BAD", "off(5)", x -> x.off(5));
+        refused("BAD", "off(greatest)", x -> x.off(GREATEST));
         in(Scenes::rich, 22);
         refused("BAD", "about(-1, 0)", x -> x.about(-1, 0));
         refused("BAD", "about(0, -1)", x -> x.about(0, -1));
@@ -355,6 +357,8 @@ public final class RefusedTest {
         in(Scenes::rich, 36);
         refused("BAD", "undo(-1)", x -> x.undo(-1));
         refused("BAD", "undo(4)", x -> x.undo(4));
+        refused("BAD", "undo(5)", x -> x.undo(5));
+        refused("BAD", "undo(greatest)", x -> x.undo(GREATEST));
         in(Scenes::full, 36);
         refused("BAD", "undo(41)", x -> x.undo(41));
         in(Scenes::rich, 37);

@@ -313,6 +313,11 @@ public final class RoomEdgesTest {
         CHECK.dueTold("a whisperer", x, x.tearOff(3, 0), 13, 0);
         CHECK.dueTold("back", x, x.tearOff(0, 3), 19, 0);
         CHECK.dueTold("the wall stays", x, x.tearOff(0, 3), 19, 0);
+        PaperWalls kinds = Streets.of("p9 o0 l0 w0 d0 s0 i0 o1");
+        int[] fewest = {5, 5, 5, 8, 5, 4};
+        for (int one = 0; one < 6; one++) {
+            CHECK.dueTold("one of kind " + one, kinds, kinds.tearOff(one, 6), fewest[one], 0);
+        }
         CHECK.due("never by a deaf one", Streets.of("p9 w0 d1").tearOff(1, 0), NONE);
         PaperWalls all = Streets.of("p94 l0 d2");
         CHECK.dueTold("down to 0", all, all.tearOff(1, 0), 9, 0);

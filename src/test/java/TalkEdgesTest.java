@@ -123,6 +123,18 @@ public final class TalkEdgesTest {
         x.talk(5, 6, 3);
         x.wall(1, 2);
         CHECK.due("who must not is of another one", x.beside(5), 1);
+        PaperWalls both = Streets.of("p0 o0 o0 i0");
+        both.talk(0, 2, 0);
+        both.talk(1, 2, 0);
+        CHECK.due("one has to hear both, and would, listening", both.beside(3), 0);
+        PaperWalls on = Streets.of("p6 l0 i1 i1");
+        on.talk(0, 1, 0);
+        on.talk(1, 2, 0);
+        CHECK.due("one has to hear and speaks, and could, listening", on.beside(3), 0);
+        on.off(0);
+        on.talk(1, 2, 0);
+        on.talk(0, 1, 0);
+        CHECK.due("one speaks and has to hear, and could, listening", on.beside(3), 0);
     }
 
     private static void othersSpeechIsNoise() {
@@ -353,6 +365,11 @@ public final class TalkEdgesTest {
         x.talk(0, 1, 0);
         x.talk(4, 5, 0);
         CHECK.dueTold("alone", x, x.turns(), 2, 1);
+        PaperWalls chain = Streets.of("p4 o0 o0 o1 o1");
+        chain.talk(0, 1, 0);
+        chain.talk(1, 2, 0);
+        chain.talk(2, 3, 0);
+        CHECK.dueTold("with the third, as the second is with none", chain, chain.turns(), 2, 5);
         PaperWalls covered = Streets.fiveWithTalks();
         CHECK.dueTold("not alone, as another one is not safe alone", covered, covered.turns(), 2, 3);
     }

@@ -119,8 +119,8 @@ public final class ToldEdgesTest {
     }
 
     private static void askedOfOthers() {
-        CHECK.by(45, "What the latest lay(), at(), mean(), person(), hears(), hush(), about(), safe(), cover(), turns(),"
-            + " most(), safes(), swap(), tearOff(), nights()");
+        CHECK.by(45, "What the latest lay(), at(), mean(), person(), hears(), hush(), about(), safe(), cover(),"
+            + " turns(), most(), safes(), swap(), tearOff(), nights()");
         PaperWalls x = Streets.fiveWithTalks();
         Streets.fill(x, 0, 7, -2);
         CHECK.dueTold("lay", x, x.lay(0, 1, 3), 1, -2);
@@ -245,8 +245,9 @@ public final class ToldEdgesTest {
     }
 
     private static void findingsOneByOne() {
-        CHECK.by(0, "FINDINGS: 1 NOTHING (a ROW, a TEXT, a kept STREET that is missing), 2 BEYOND (a place that there is not),"
-            + " 3 UNLIKE (one of another KIND; a number that is none), 4 NOUGHT (shared among none; what can't be),"
+        CHECK.by(0, "FINDINGS: 1 NOTHING (a ROW, a TEXT, a kept STREET that is missing),"
+            + " 2 BEYOND (a place that there is not), 3 UNLIKE (one of another KIND; a number that is none),"
+            + " 4 NOUGHT (shared among none; what can't be),"
             + " 5 SIZE (fewer than none; not as many as due).");
         PaperWalls x = Scenes.apart();
         CHECK.dueFinding("a row that is missing", x, x.at(5, 0), NOTHING);

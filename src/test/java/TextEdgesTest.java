@@ -148,6 +148,9 @@ public final class TextEdgesTest {
         dueFault("p1 o0 o1 ", NONE);
         dueFault("p1 o0 o1     ", NONE);
         dueFault("p1     ", NONE);
+        dueFault("p1o0o1", NONE);
+        dueFault("p1o0 o1", NONE);
+        dueFault("p1 o0o1", NONE);
         dueFault("p1\to0", 2);
         dueFault("p1\no0", 2);
         dueFault("p1" + (char) 31 + "o0", 2);
